@@ -378,7 +378,7 @@ public final class TalkBridge {
         if (!scene.isGroup(set) || !isFirstOrSecond(what)) {
             return NONE;
         }
-        int first = Integer.lowestOneBit(set);
+        int first = set & -set;
         int best = NONE;
         int least = NONE;
         for (int part = 1; part < set; part++) {
@@ -1108,8 +1108,8 @@ public final class TalkBridge {
         int bestParts;
         private final int[] minutes = new int[SETS];
         private final int[] talk = new int[SETS];
-        private final int[] part = new int[PERSONS_MOST + 1];
-        private final int[] best = new int[PERSONS_MOST + 1];
+        private final int[] part = new int[PERSONS_MOST];
+        private final int[] best = new int[PERSONS_MOST];
         private int persons;
         private int near;
         private boolean allSaid;
@@ -1169,7 +1169,7 @@ public final class TalkBridge {
             if (bestMinutes == NONE || sum < bestMinutes || fewer) {
                 bestMinutes = sum;
                 bestParts = parts;
-                System.arraycopy(part, 0, best, 0, best.length);
+                System.arraycopy(part, 0, best, 0, PERSONS_MOST);
             }
         }
 
@@ -1191,7 +1191,7 @@ public final class TalkBridge {
     private static final class Lantern {
         /** A minute weighs more than all CROSSINGS that a cheapest way can have. */
         static final long MINUTE = 1024;
-        static final long NOT_REACHED = Long.MAX_VALUE;
+        static final long NOT_REACHED = 1L << 40;
 
         int minutes;
         int crossings;
@@ -1390,16 +1390,16 @@ public final class TalkBridge {
         private int mark(int start) {
             int first = byteAt(start);
             int next = start + 1;
-            if (isLetter(start)) {
-                while (next < length && isLetter(next)) {
+            if (isLetter(first)) {
+                while (next < length && isLetter(byteAt(next))) {
                     next++;
                 }
                 kinds[start] = (byte) (next - start > WORD_MOST ? NO_TOKEN : wordKind(start, next));
-            } else if (isDigit(start)) {
-                while (next < length && isDigit(next)) {
+            } else if (isDigit(first)) {
+                while (next < length && isDigit(byteAt(next))) {
                     next++;
                 }
-                kinds[start] = (byte) (next - start > DIGITS_MOST || isLetter(next) ? NO_TOKEN : NUMBER);
+                kinds[start] = (byte) (next - start > DIGITS_MOST || isLetter(byteAt(next)) ? NO_TOKEN : NUMBER);
             } else if (first != ' ' && first != '\n') {
                 kinds[start] = (byte) (SIGNS.indexOf((char) (first & 255)) < 0 ? NO_TOKEN : first);
             }
@@ -1422,7 +1422,7 @@ public final class TalkBridge {
         /** Of the N that is read now. */
         int number() {
             int number = 0;
-            for (int i = place; i < place + DIGITS_MOST && isDigit(i); i++) {
+            for (int i = place; i < place + DIGITS_MOST && isDigit(byteAt(i)); i++) {
                 number = number * 10 + byteAt(i) - '0';
             }
             return number;
@@ -1430,20 +1430,23 @@ public final class TalkBridge {
 
         /** Whether the word that is read now is the one at that place. */
         boolean isLike(int other) {
-            for (int i = 0; i < WORD_MOST && (isLetter(place + i) || isLetter(other + i)); i++) {
-                if (byteAt(place + i) != byteAt(other + i)) {
-                    return false;
-                }
+            boolean alike = true;
+            boolean inside = true;
+            for (int i = 0; i < WORD_MOST && alike && inside; i++) {
+                int mine = byteAt(place + i);
+                int his = byteAt(other + i);
+                inside = isLetter(mine) || isLetter(his);
+                alike = mine == his || !inside;
             }
-            return true;
+            return alike;
         }
 
-        private boolean isLetter(int i) {
-            return byteAt(i) >= 'a' && byteAt(i) <= 'z';
+        private static boolean isLetter(int sign) {
+            return sign >= 'a' && sign <= 'z';
         }
 
-        private boolean isDigit(int i) {
-            return byteAt(i) >= '0' && byteAt(i) <= '9';
+        private static boolean isDigit(int sign) {
+            return sign >= '0' && sign <= '9';
         }
 
         private int byteAt(int i) {

@@ -300,6 +300,12 @@ public final class PromiseTest {
         TalkBridge room = Due.river("person a pace 1;person b pace 1;person c pace 1;bridge 3 room 2;");
         Due.due("room", room.soonest(), 6);
         lying(room, 0, 0, 1);
+        TalkBridge seven = Due.river("person a pace 1;person b pace 1;person c pace 1;person d pace 1;person e pace 1;"
+            + "person f pace 1;person g pace 1;bridge 99 room 1;");
+        Due.due("seven, each alone", seven.soonest(), 693);
+        lying(seven, 0, 1, 2, 3, 4, 5, 6);
+        Due.due("silent", seven.silent(0), 693);
+        Due.due("silent", seven.silent(1), 7);
         TalkBridge tied = Due.river("person a pace 1;person b pace 1;person c pace 1;say a to b 1;say b to c 1;bridge 3 room 2;");
         Due.due("no room for all that is to be said", tied.soonest(), -1);
         lying(tied);

@@ -240,6 +240,9 @@ public final class TextTest {
         value("5 + (4 = 3)", 5);
         value("5 + (2 and 4)", 6);
         value("5 + (0 and 4)", 5);
+        value("5 + (4 and 1)", 6);
+        value("5 + (4 and 0)", 5);
+        value("5 + (4 or 0)", 6);
         value("5 + (0 or 4)", 6);
         value("5 + (0 or 0)", 5);
         value("5 + (1 or 0 and 0)", 6);
