@@ -347,6 +347,15 @@ public final class PromiseTest {
         TalkBridge like = Due.river("person a pace 1;person b pace 1;person c pace 1;long many * 2;");
         Due.due("minutes", like.silent(0), 6);
         Due.due("of like ones the fewest GROUPS", like.silent(1), 1);
+        String four = "person a pace 1;person b pace 1;person c pace 1;person d pace 1;say c to d 30;say a to d 30;say b to c 30;";
+        TalkBridge parted = Due.river(four + "say a to c 30;say b to d 30;");
+        // a b, c, d, whatever fewer GROUPS come behind it
+        Due.due("minutes", parted.silent(0), 9);
+        Due.due("GROUPS", parted.silent(1), 3);
+        TalkBridge later = Due.river(four + "say b to d 3;");
+        // a b, c, d take 9 as well as a c, b d
+        Due.due("minutes", later.silent(0), 9);
+        Due.due("the fewest GROUPS, though they come later", later.silent(1), 2);
         TalkBridge breaks = Due.river("person a pace 1;person b pace 1;say a to b 21 lie;bridge 50;");
         Due.due("together it would break", breaks.silent(0), 100);
         Due.due("GROUPS", breaks.silent(1), 2);
@@ -659,6 +668,10 @@ public final class PromiseTest {
     }
 
     private static void timedLimits() {
+        TalkBridge anew = Due.river("person a pace 1;");
+        anew.took(5, true);
+        anew.river();
+        Due.due("nothing is TIMED behind river()", anew.untell(0), false);
         TalkBridge x = Due.river("person a pace 1;");
         Due.due("took(0)", x.took(0, true), -1);
         Due.due("took(10000)", x.took(10000, true), -1);

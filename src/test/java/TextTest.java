@@ -117,6 +117,7 @@ public final class TextTest {
         sound("draw12;turns0;");
         sound("person abcdefgh pace1 coins9 over;");
         sound("draw 0999;");
+        sound("person z pace 1;person zaz pace 9;say zaz to z 1;");
     }
 
     private static void outOfPlace() {
