@@ -2,6 +2,7 @@
 final class Due {
     private static int wrong = 0;
     private static int seen = 0;
+    private static String under = "";
 
     private Due() {
     }
@@ -10,12 +11,21 @@ final class Due {
         seen++;
         if (got != want) {
             wrong++;
-            System.out.println(call + " answered " + got + ", due is " + want);
+            System.out.println(under + call + " answered " + got + ", due is " + want);
         }
     }
 
     static void due(String call, boolean got, boolean want) {
         due(call, got ? 1 : 0, want ? 1 : 0);
+    }
+
+    /** What is wrong from now on is told with these words ahead. */
+    static void under(String words) {
+        under = words;
+    }
+
+    static int seen() {
+        return seen;
     }
 
     /** Feeds a text, twenty bytes at a time, and cuts off what filled it up. */
@@ -46,6 +56,20 @@ final class Due {
             due("river() of \"" + text + "\": fault " + x.fault(0) + " at " + x.fault(1), -1, 0);
         }
         return x;
+    }
+
+    static void sound(String text) {
+        faulty(text, 0, -1);
+    }
+
+    /** What river() makes of a text, by a new object. */
+    static void faulty(String text, int fault, int place) {
+        TalkBridge x = new TalkBridge();
+        feed(x, text);
+        int answer = x.river();
+        due("fault(0) of \"" + text + "\"", x.fault(0), fault);
+        due("fault(1) of \"" + text + "\"", x.fault(1), place);
+        due("river() of \"" + text + "\" is NONE", answer < 0, fault != 0);
     }
 
     static void finish(String name) {

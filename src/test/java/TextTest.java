@@ -101,61 +101,61 @@ public final class TextTest {
     }
 
     private static void noTokens() {
-        faulty("A", 1, 0);
-        faulty("\tdraw 1;", 1, 0);
-        faulty("draw 1;\r", 1, 7);
-        faulty("draw " + (char) 233 + ";", 1, 5);
-        faulty("draw " + (char) 0 + ";", 1, 5);
-        faulty("draw 1,", 1, 6);
-        faulty("draw 12345;", 1, 5);
-        faulty("draw 1a;", 1, 5);
-        faulty("person abcdefghi pace 1;", 1, 7);
-        faulty("personabc", 1, 0);
-        faulty("long 1!;", 1, 6);
-        faulty("x A", 2, 0);
-        sound("\n\n  draw\n12 ; ");
-        sound("draw12;turns0;");
-        sound("person abcdefgh pace1 coins9 over;");
-        sound("draw 0999;");
-        sound("person z pace 1;person zaz pace 9;say zaz to z 1;");
+        Due.faulty("A", 1, 0);
+        Due.faulty("\tdraw 1;", 1, 0);
+        Due.faulty("draw 1;\r", 1, 7);
+        Due.faulty("draw " + (char) 233 + ";", 1, 5);
+        Due.faulty("draw " + (char) 0 + ";", 1, 5);
+        Due.faulty("draw 1,", 1, 6);
+        Due.faulty("draw 12345;", 1, 5);
+        Due.faulty("draw 1a;", 1, 5);
+        Due.faulty("person abcdefghi pace 1;", 1, 7);
+        Due.faulty("personabc", 1, 0);
+        Due.faulty("long 1!;", 1, 6);
+        Due.faulty("x A", 2, 0);
+        Due.sound("\n\n  draw\n12 ; ");
+        Due.sound("draw12;turns0;");
+        Due.sound("person abcdefgh pace1 coins9 over;");
+        Due.sound("draw 0999;");
+        Due.sound("person z pace 1;person zaz pace 9;say zaz to z 1;");
     }
 
     private static void outOfPlace() {
-        faulty(";", 2, 0);
-        faulty("draw", 2, 4);
-        faulty("draw  ", 2, 6);
-        faulty("draw ;", 2, 5);
-        faulty("draw 1", 2, 6);
-        faulty("draw 1 2;", 2, 7);
-        faulty("12", 2, 0);
-        faulty("person over pace 1;", 2, 7);
-        faulty("person 1 pace 1;", 2, 7);
-        faulty("person a coins 1;", 2, 9);
-        faulty("person a pace 1 over coins 2;", 2, 21);
-        faulty("person a pace a;", 2, 14);
-        faulty(TWO + "say a b 1;", 2, 38);
-        faulty(TWO + "say a to b lie;", 2, 43);
-        faulty(TWO + "say a to b 1 lie lie;", 2, 49);
-        faulty(TWO + "say to to b 1;", 2, 36);
-        faulty("bridge bears 1;", 2, 7);
-        faulty("bridge 1 mends 1 bears 1;", 2, 17);
-        faulty("long ;", 2, 5);
-        faulty("long 1 + ;", 2, 9);
-        faulty("long 1 + not 1;", 2, 9);
-        faulty("long 1 < 2 < 3;", 2, 11);
-        faulty("long (1;", 2, 7);
-        faulty("long 1);", 2, 6);
-        faulty("long name;", 2, 5);
-        faulty("long - 1;", 2, 5);
-        faulty("toll not;", 2, 8);
-        faulty("to 1;", 2, 0);
+        Due.faulty(";", 2, 0);
+        Due.faulty("draw", 2, 4);
+        Due.faulty("draw  ", 2, 6);
+        Due.faulty("draw ;", 2, 5);
+        Due.faulty("draw 1", 2, 6);
+        Due.faulty("draw 1 2;", 2, 7);
+        Due.faulty("12", 2, 0);
+        Due.faulty("person over pace 1;", 2, 7);
+        Due.faulty("person 1 pace 1;", 2, 7);
+        Due.faulty("person a coins 1;", 2, 9);
+        Due.faulty("person a pace 1 over coins 2;", 2, 21);
+        Due.faulty("person a pace a;", 2, 14);
+        Due.faulty(TWO + "say a b 1;", 2, 38);
+        Due.faulty(TWO + "say a to b lie;", 2, 43);
+        Due.faulty(TWO + "say a to b 1 lie lie;", 2, 49);
+        Due.faulty(TWO + "say to to b 1;", 2, 36);
+        Due.faulty("bridge bears 1;", 2, 7);
+        Due.faulty("bridge 1 mends 1 bears 1;", 2, 17);
+        Due.faulty("long ;", 2, 5);
+        Due.faulty("long 1 + ;", 2, 9);
+        Due.faulty("long 1 + not 1;", 2, 9);
+        Due.faulty("long 1 < 2 < 3;", 2, 11);
+        Due.faulty("long (1;", 2, 7);
+        Due.faulty("long 1);", 2, 6);
+        Due.faulty("long name;", 2, 5);
+        Due.faulty("long - 1;", 2, 5);
+        Due.faulty("toll not;", 2, 8);
+        Due.faulty("to 1;", 2, 0);
         // no word that stands for itself is a NAME; words of the grammar's own rules are
         String[] own = {"person", "pace", "coins", "over", "say", "to", "lie", "bridge", "bears", "mends", "room", "long",
             "toll", "turns", "draw", "or", "and", "not", "steps", "words", "lies", "many", "length", "minute"};
         for (String word : own) {
-            faulty("person " + word + " pace 1;", 2, 7);
+            Due.faulty("person " + word + " pace 1;", 2, 7);
         }
-        sound("person e pace 1;person river pace 1;person n pace 1;person unit pace 1;person liee pace 1;say e to unit 1;");
+        Due.sound("person e pace 1;person river pace 1;person n pace 1;person unit pace 1;person liee pace 1;say e to unit 1;");
     }
 
     private static void tooMany() {
@@ -163,62 +163,62 @@ public final class TextTest {
         for (int i = 0; i < 7; i++) {
             persons.append("person ").append((char) ('a' + i)).append(" pace 1;");
         }
-        sound(persons.toString());
-        faulty(persons + "person h pace 1;", 2, persons.length());
+        Due.sound(persons.toString());
+        Due.faulty(persons + "person h pace 1;", 2, persons.length());
         StringBuilder matters = new StringBuilder(TWO);
         for (int i = 0; i < 12; i++) {
             matters.append("say a to b 1;");
         }
-        sound(matters.toString());
-        faulty(matters + "say", 2, matters.length());
+        Due.sound(matters.toString());
+        Due.faulty(matters + "say", 2, matters.length());
         String[] once = {"bridge 1;", "long 1;", "toll 1;", "turns 1;", "draw 1;"};
         for (String line : once) {
-            faulty(line + TWO + line, 2, line.length() + TWO.length());
+            Due.faulty(line + TWO + line, 2, line.length() + TWO.length());
         }
-        sound("bridge 1;long 1;toll 1;turns 1;draw 1;");
+        Due.sound("bridge 1;long 1;toll 1;turns 1;draw 1;");
     }
 
     private static void namesAndNumbers() {
-        faulty(TWO + "person a pace 1;", 3, 39);
-        faulty(TWO + "say a to a 1;", 3, 41);
-        faulty(TWO + "say c to a 1;", 5, 36);
-        faulty(TWO + "say a to c 1;", 5, 41);
-        faulty("say a to b 1;" + TWO, 5, 4);
-        faulty("person a pace 1;person ab pace 1;say abc to a 1;", 5, 37);
+        Due.faulty(TWO + "person a pace 1;", 3, 39);
+        Due.faulty(TWO + "say a to a 1;", 3, 41);
+        Due.faulty(TWO + "say c to a 1;", 5, 36);
+        Due.faulty(TWO + "say a to c 1;", 5, 41);
+        Due.faulty("say a to b 1;" + TWO, 5, 4);
+        Due.faulty("person a pace 1;person ab pace 1;say abc to a 1;", 5, 37);
         String[] before = {"person a pace ", "person a pace 1 coins ", TWO + "say a to b ", "bridge ", "bridge 1 bears ",
             "bridge 1 mends ", "bridge 1 room ", "turns ", "draw "};
         int[] least = {1, 0, 0, 1, 0, 1, 1, 0, 0};
         int[] most = {9, 999, 99, 99, 999, 60, 7, 100, 999};
         for (int i = 0; i < before.length; i++) {
-            sound(before[i] + least[i] + ";");
-            sound(before[i] + most[i] + ";");
-            faulty(before[i] + (most[i] + 1) + ";", 4, before[i].length());
+            Due.sound(before[i] + least[i] + ";");
+            Due.sound(before[i] + most[i] + ";");
+            Due.faulty(before[i] + (most[i] + 1) + ";", 4, before[i].length());
             if (least[i] > 0) {
-                faulty(before[i] + "0;", 4, before[i].length());
+                Due.faulty(before[i] + "0;", 4, before[i].length());
             }
         }
-        faulty("draw 1000 A", 4, 5);
+        Due.faulty("draw 1000 A", 4, 5);
     }
 
     private static void formulaLimits() {
         String thirty = "1" + "+1".repeat(29);
         TalkBridge x = Due.river("long " + thirty + ";toll " + thirty + ";");
         Due.due("about(12) at the limit", x.about(12), 60);
-        faulty("long " + thirty + "+1;", 2, 5 + 60);
-        faulty("long 1;toll " + thirty + "+(1);", 2, 12 + 60);
+        Due.faulty("long " + thirty + "+1;", 2, 5 + 60);
+        Due.faulty("long 1;toll " + thirty + "+(1);", 2, 12 + 60);
         // a unit ( e ) is one of the units, and counted at its first sign
-        faulty("long (1)" + "+1".repeat(29) + ";", 2, 5 + 3 + 57);
+        Due.faulty("long (1)" + "+1".repeat(29) + ";", 2, 5 + 3 + 57);
         Due.due("about(12) of ((2))", Due.river("long ((2));").about(12), 3);
-        sound("long " + "(".repeat(7) + "1" + ")".repeat(7) + ";");
-        faulty("long " + "(".repeat(8) + "1" + ")".repeat(8) + ";", 2, 12);
-        sound("long " + "not ".repeat(7) + "1;");
-        faulty("long " + "not ".repeat(8) + "1;", 2, 33);
-        sound("long not (not (not (not 1)));");
-        faulty("long not (not (not (not (1))));", 2, 24);
-        sound("long (not (not (not 1)));");
-        faulty("long (not (not (not (not 1))));", 2, 21);
-        faulty("long ((not (not (not (not 1)))));", 2, 21);
-        sound("long (((((((1)))))))+(((((((1)))))));");
+        Due.sound("long " + "(".repeat(7) + "1" + ")".repeat(7) + ";");
+        Due.faulty("long " + "(".repeat(8) + "1" + ")".repeat(8) + ";", 2, 12);
+        Due.sound("long " + "not ".repeat(7) + "1;");
+        Due.faulty("long " + "not ".repeat(8) + "1;", 2, 33);
+        Due.sound("long not (not (not (not 1)));");
+        Due.faulty("long not (not (not (not (1))));", 2, 24);
+        Due.sound("long (not (not (not 1)));");
+        Due.faulty("long (not (not (not (not 1))));", 2, 21);
+        Due.faulty("long ((not (not (not (not 1)))));", 2, 21);
+        Due.sound("long (((((((1)))))))+(((((((1)))))));");
     }
 
     private static void formulaValues() {
@@ -274,19 +274,5 @@ public final class TextTest {
     private static void value(String formula, int length) {
         TalkBridge x = Due.river("person a pace 1;long " + formula + ";");
         Due.due("LENGTH by long " + formula, x.group(1, 2), length);
-    }
-
-    private static void sound(String text) {
-        faulty(text, 0, -1);
-    }
-
-    private static void faulty(String text, int fault, int place) {
-        TalkBridge x = new TalkBridge();
-        Due.feed(x, text);
-        int answer = x.river();
-        int wanted = place < 0 ? 0 : fault;
-        Due.due("fault(0) of \"" + text + "\"", x.fault(0), wanted);
-        Due.due("fault(1) of \"" + text + "\"", x.fault(1), place);
-        Due.due("river() of \"" + text + "\" is NONE", answer < 0, wanted != 0);
     }
 }
