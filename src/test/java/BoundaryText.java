@@ -487,6 +487,7 @@ final class BoundaryText {
             Due.due("no lie", x.matter(0, 3), 0);
             Due.due("coins", x.person(0, 1), 0);
             Due.due("turns", x.odds(1, 0), 1);
+            Due.due("nothing is known of who crossed", x.fits(9), 3);
             Due.due("what is told now is not what was told", x.was(0, false), 0);
             Due.due("e alone", x.fits(0), 1);
             Due.due("cross", x.cross(3), 33);
